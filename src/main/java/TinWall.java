@@ -847,6 +847,7 @@ public final class TinWall {
 
     /** LOOKING and DAYS, with the rows they need. */
     private static final class Walk {
+        /** The WORDS of a SEEKER and a STONE, in the order of Rule.NAMED. */
         private final long[] words = new long[Rule.WORDS];
         private final long[] rating = new long[MOST_STONES];
         final int[] looked = new int[MOST_STONES];
@@ -880,6 +881,7 @@ public final class TinWall {
 
         /** Fills looked, lookedAt, minutes and found; the state stays as it is. */
         void look(Hill hill, Rule rule, State state, int seeker) {
+            setSeekerWords(hill, state, seeker);
             for (int stone = 0; stone < hill.stones; stone++) {
                 rating[stone] = rate(hill, rule, state, seeker, stone);
             }
@@ -901,26 +903,29 @@ public final class TinWall {
             }
         }
 
+        private void setSeekerWords(Hill hill, State state, int seeker) {
+            words[0] = seeker;
+            words[6] = state.figure;
+            words[9] = hill.skill[seeker];
+            words[10] = state.vain[seeker];
+            words[12] = state.finders();
+            words[13] = state.day;
+        }
+
         /** The greater, the sooner they look there. */
         private long rate(Hill hill, Rule rule, State state, int seeker, int stone) {
             int off = Math.abs(hill.feet[stone] - state.figure);
             if (rule == null) {
                 return -off;
             }
-            words[0] = seeker;
             words[1] = stone;
             words[2] = hill.feet[stone];
             words[3] = hill.hard[stone];
             words[4] = hill.odds[stone];
             words[5] = state.wear[stone];
-            words[6] = state.figure;
             words[7] = off;
             words[8] = hill.minutes(state, seeker, stone);
-            words[9] = hill.skill[seeker];
-            words[10] = state.vain[seeker];
             words[11] = (state.tried[seeker] >> stone) & 1;
-            words[12] = state.finders();
-            words[13] = state.day;
             return rule.sum(words);
         }
 

@@ -16,6 +16,7 @@ public final class DayTest {
         walkers();
         oneBehindTheOther();
         withoutMuch();
+        fullest();
         Check.done();
     }
 
@@ -175,6 +176,37 @@ public final class DayTest {
         Check.is("the last one again", wall.day(), 1);
         Check.is("WEAR 4 is a MINUTE", wall.day(), 1);
         Check.is("on this DAY", wall.seeker(0, 4), 3);
+    }
+
+    /** As many STONES, THINGS, SEEKERS and walkers as there can be. */
+    private static void fullest() {
+        StringBuilder text = new StringBuilder("hill 0 4 0");
+        text.append(";stone 9 1 1".repeat(10)).append(";tin 9");
+        for (int i = 0; i < 6; i++) {
+            text.append(";thing 9" + i);
+        }
+        text.append(";seeker 0 10 0 1".repeat(4));
+        for (int i = 7; i >= 0; i--) {
+            text.append(";walker " + i);
+        }
+        TinWall wall = Check.told(text.toString());
+        Check.is("the last STONE they look at", wall.today(3, 9), 9);
+        Check.is("no eleventh", wall.today(3, 10), -2);
+        Check.is("the last in ORDER", wall.order(3, 9), 9);
+        Check.is("behind the last STONE", wall.hiding(1, 0), 0);
+        Check.is("all FIND it", wall.day(), 4);
+        Check.is("gone by the last walkers told", wall.count(9), -1);
+        int[] things = {90, 91, 0, 0, 0, 0};
+        for (int i = 0; i < 6; i++) {
+            Check.is("thing " + i, wall.thing(i), things[i]);
+        }
+        Check.is("the last SEEKER carries", wall.seeker(3, 2), 92);
+        Check.is("the last STONE was TRIED by all", wall.stone(9, 4), 15);
+        Check.is("the last SEEKER TRIED all", wall.seeker(3, 6), 1023);
+        Check.is("WEAR", wall.stone(9, 3), 4);
+        Check.is("walkers on DAY 7", wall.day() + wall.day() + wall.day() + wall.day() + wall.day() + wall.day() + wall.count(11), 1);
+        wall.day();
+        Check.is("none on DAY 8", wall.count(11), 0);
     }
 
     private static void withoutMuch() {

@@ -91,6 +91,10 @@ public final class HillTest {
         fault("hill 0 1 0;;", 11, 0);
         fault("hill 0 1 0;st one 1 1 1", 11, 0);
         fault("hill\t0 1 0", 4, 0);
+        fault("hill 0 1 0;thingz 1", 11, 0);
+        fault("hill 0 1 0;thinga 1", 11, 0);
+        fault("hill 0 1 0;thing{ 1", 16, 0);
+        fault("hill 0 1 0;thing` 1", 16, 0);
         told("hill0 1 0", 0);
         told("  hill  0   1 0  ;  stone1 1 1 ;tin0;thing1;walker 1  ", 1);
     }

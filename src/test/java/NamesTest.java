@@ -87,6 +87,10 @@ public final class NamesTest {
         TinWall seen = Check.told("hill 50 1 0;stone 50 1 1;tin 0;seeker 0 1 0 0;seeker 0 1 0 0;walker 0", "look 1");
         seen.name(0, 1);
         isRuled(seen, "ahead of the walkers", 2, -1);
+        TinWall unseen = Check.told("hill 0 1 0;stone 0 20 1;stone 50 20 1;tin 1;seeker 0 20 0 0;seeker 0 20 0 0",
+            "look 1 if stone=1 and day>=seeker");
+        unseen.name(1, 1);
+        isRuled(unseen, "where no walkers come", 1, 0);
         TinWall gone = Check.told("hill 50 1 0;stone 50 4 1;tin 0;seeker 0 4 0 0;seeker 0 3 0 0;walker 1", "look 1");
         gone.name(1, 1);
         isRuled(gone, "who comes too late", 0, -2);
@@ -128,6 +132,9 @@ public final class NamesTest {
         nearest.name(0, 0);
         nearest.name(1, 0);
         Check.is("by none, too", nearest.forged(), 2);
+        nearest.name(-1, 0);
+        nearest.name(1, 0);
+        Check.is("the first", nearest.forged(), 1);
     }
 
     private static void wrongAsked() {

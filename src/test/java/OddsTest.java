@@ -31,6 +31,7 @@ public final class OddsTest {
             Check.is("close " + k, wall.order(0, k), close[k]);
         }
         Check.is("without ODDS", Check.told("hill 0 9 0;stone 0 7 0;seeker 0 1 0 0").order(0, 0), -2);
+        Check.is("ODDS 1", Check.told("hill 0 9 0;stone 0 7 1;seeker 0 1 0 0").order(0, 0), 0);
     }
 
     private static void fraction(String what, int above, int below, int dueAbove, int dueBelow) {
@@ -102,6 +103,7 @@ public final class OddsTest {
         hinted(";stone 50 1 5;stone 50 1 4", 1, 9);
         hinted(";stone 60 1 3;stone 30 1 3;stone 80 1 3", 31, 6);
         hinted(";stone 60 1 0", 1, 0);
+        hinted(";stone 1 1 5;stone 9 1 5", 2, 5);
         hinted("", 1, 0);
     }
 

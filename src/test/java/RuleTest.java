@@ -66,6 +66,8 @@ public final class RuleTest {
         fault("look 1 if not", 13, 0);
         fault("look 1 and 1 = 1", 7, 0);
         fault("look 1 @", 7, 0);
+        fault("look 1 if 1<=", 13, 0);
+        fault("look 1 if 1>", 12, 0);
         fine("look 1");
         fine("  look  99999  +00000 ");
         fine("look1if1=1and2=2or[3=3]");
@@ -226,6 +228,9 @@ public final class RuleTest {
         wall.force(3);
         orderIs(wall, 21);
         wall.force(4);
+        orderIs(wall, 201);
+        Check.is("a sixth", Check.rule(wall, "look 1 if not stone<2"), 5);
+        wall.force(5);
         orderIs(wall, 201);
         wall.force(-1);
         orderIs(wall, 102);

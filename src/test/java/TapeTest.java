@@ -7,6 +7,7 @@ public final class TapeTest {
         newObject();
         feeding();
         byteOrder();
+        leftovers();
         counts();
         Check.done();
     }
@@ -79,6 +80,37 @@ public final class TapeTest {
         wall.end(10);
         Check.is("fed behind an end", wall.hill(), 0);
         Check.is("lost then", wall.count(2), 4);
+    }
+
+    /** What stood behind the end of a text is not read. */
+    private static void leftovers() {
+        TinWall wall = new TinWall();
+        Check.tape(wall, "hill 1 2 34");
+        wall.end(10);
+        Check.is("digits", wall.hill(), 0);
+        Check.is("LOST without the last digit", wall.count(2), 3);
+        Check.is("blanks", cutHill("hill 1 2    ", 8), Check.fault(8, 0));
+        Check.is("letters", cutHill("hill 1 2 3;thing 4", 14), Check.fault(11, 0));
+        Check.is("a part of a word", cutHill("hill 1 2 3;tinz 4", 14), Check.fault(14, 0));
+        Check.is("a CLAUSE", cutHill("hill 1 2 3;thing 4", 10), 0);
+        Check.is("a sign", cutRule("look 1 if 1<=1", 12), Check.fault(12, 0));
+        Check.is("a NUMBER", cutRule("look 1 if 1<=1", 13), Check.fault(13, 0));
+        Check.is("a TEST", cutRule("look 1 if 1<=1", 6), 0);
+        Check.is("a bracket", cutRule("look 1 if [1<=1]", 15), Check.fault(15, 0));
+    }
+
+    private static int cutHill(String text, int bytes) {
+        TinWall wall = new TinWall();
+        Check.tape(wall, text);
+        wall.end(bytes);
+        return wall.hill();
+    }
+
+    private static int cutRule(String text, int bytes) {
+        TinWall wall = new TinWall();
+        Check.tape(wall, text);
+        wall.end(bytes);
+        return wall.rule();
     }
 
     private static void counts() {
