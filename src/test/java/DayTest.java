@@ -194,6 +194,14 @@ public final class DayTest {
         Check.is("no eleventh", wall.today(3, 10), -2);
         Check.is("the last in ORDER", wall.order(3, 9), 9);
         Check.is("behind the last STONE", wall.hiding(1, 0), 0);
+        Check.is("WORTH of six", wall.worth(0), 555);
+        Check.is("GONE of ten", wall.gone(0), 0);
+        Check.is("GONE of ten, below", wall.gone(1), 1);
+        Check.is("HINT of ten", wall.hint(0), 1);
+        Check.is("HINT of ten, how much", wall.hint(1), 10);
+        Check.is("MEAN of ten", wall.mean(0, 0), 11);
+        Check.is("MEAN of ten, below", wall.mean(0, 1), 2);
+        Check.is("SHOWS of ten", wall.shows(0), 0);
         Check.is("all FIND it", wall.day(), 4);
         Check.is("gone by the last walkers told", wall.count(9), -1);
         int[] things = {90, 91, 0, 0, 0, 0};

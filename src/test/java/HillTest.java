@@ -96,6 +96,10 @@ public final class HillTest {
         fault("hill 0 1 0;thing{ 1", 16, 0);
         fault("hill 0 1 0;thing` 1", 16, 0);
         told("hill0 1 0", 0);
+        told("hill 0 1" + " ".repeat(391) + "0", 0);
+        told("hill 0 1 0" + " ".repeat(390), 0);
+        fault("hill 0 1" + " ".repeat(388) + "0;ti", 398, 0);
+        fault("hill 0 1" + " ".repeat(387) + "0;tin", 400, 0);
         told("  hill  0   1 0  ;  stone1 1 1 ;tin0;thing1;walker 1  ", 1);
     }
 

@@ -68,6 +68,12 @@ public final class RuleTest {
         fault("look 1 @", 7, 0);
         fault("look 1 if 1<=", 13, 0);
         fault("look 1 if 1>", 12, 0);
+        for (String end : new String[] {"1<", "1<=", "1", "not", "[", "1=1 and", "1=1 o", "1+"}) {
+            String start = "look 1 if ";
+            fault(start + " ".repeat(400 - start.length() - end.length()) + end, end.equals("1=1 o") ? 399 : 400, 0);
+        }
+        fine("look 1 if " + " ".repeat(387) + "1=1");
+        fine("look 1" + " ".repeat(394));
         fine("look 1");
         fine("  look  99999  +00000 ");
         fine("look1if1=1and2=2or[3=3]");
@@ -229,6 +235,12 @@ public final class RuleTest {
         orderIs(wall, 21);
         wall.force(4);
         orderIs(wall, 201);
+        TinWall many = Check.told(HILL, "look stone if 1=2;".repeat(11) + "look stone if 1=2",
+            "look 5 if 1=2;".repeat(11) + "look stone if 1=1");
+        many.force(0);
+        orderIs(many, 12);
+        many.force(1);
+        orderIs(many, 210);
         Check.is("a sixth", Check.rule(wall, "look 1 if not stone<2"), 5);
         wall.force(5);
         orderIs(wall, 201);
