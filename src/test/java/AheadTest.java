@@ -35,22 +35,26 @@ public final class AheadTest {
         Check.is("a hundred DAYS", gone.ahead(0, 100, 2), 0);
     }
 
-    private static void asDaysGo() {
+    private static TinWall moving() {
         TinWall wall = Check.told("hill 40 20 0;stone 35 9 1;stone 40 5 1;stone 60 8 1;stone 10 12 3;tin 3;thing 50;thing 60;"
             + "seeker 2 15 10 1;seeker 0 9 70 2;seeker 5 20 0 0;seeker 0 30 55 2;walker 12;walker 30;walker 50",
             "look wear*3-off if vain<9;look off+vain%7*stone if seeker>1 or found>0;look 0-minutes");
         wall.force(0);
-        int[] where = new int[101];
-        for (int n = 0; n <= 100; n++) {
-            where[n] = wall.ahead(0, n, 0) * 1000000 + wall.ahead(2, n, 1) * 10000 + wall.ahead(1, n, 2) * 100 + wall.worth(n);
-        }
-        for (int n = 0; n <= 100; n++) {
-            int worth = wall.thing(0) + wall.thing(1);
-            int is = wall.count(9) * 1000000 + wall.stone(2, 3) * 10000 + wall.seeker(1, 4) * 100 + worth;
-            Check.is("as told ahead, DAY " + n, is, where[n]);
+        return wall;
+    }
+
+    private static void asDaysGo() {
+        TinWall asked = moving();
+        TinWall wall = moving();
+        for (int n = 0; n <= 90; n++) {
+            Check.is("where, DAY " + n, asked.ahead(0, n, 0), wall.count(9));
+            Check.is("WEAR, DAY " + n, asked.ahead(2, n, 1), wall.stone(2, 3));
+            Check.is("who, DAY " + n, asked.ahead(1, n, 2), wall.seeker(1, 4));
+            Check.is("WORTH, DAY " + n, asked.worth(n), wall.worth(0));
             wall.day();
         }
-        Check.is("the DAY", wall.count(8), 101);
+        Check.is("the DAY", wall.count(8), 91);
+        Check.is("WORTH of both", wall.worth(0), wall.thing(0) + wall.thing(1));
     }
 
     private static void today() {

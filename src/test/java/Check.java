@@ -14,6 +14,14 @@ final class Check {
         }
     }
 
+    static void same(String what, String got, String want) {
+        compared++;
+        if (!got.equals(want)) {
+            wrong++;
+            System.out.println(what + " is " + got + ", due is " + want);
+        }
+    }
+
     /** Ends the test: with exit code 1, if an answer was wrong. */
     static void done() {
         System.out.println(compared + " compared, " + wrong + " wrong");
@@ -46,6 +54,13 @@ final class Check {
     static int rule(TinWall wall, String text) {
         tape(wall, text);
         return wall.rule();
+    }
+
+    /** The same DAY after DAY. */
+    static void days(TinWall wall, int many) {
+        for (int i = 0; i < many; i++) {
+            wall.day();
+        }
     }
 
     /** A new object with a HILL, and RULES, none of them IN FORCE. */

@@ -13,9 +13,10 @@ public final class LanguageTest {
     private static final String FACE = "feed/5 end/1 hill/0 rule/0 force/1 stone/2 seeker/2 thing/1 day/0 hide/1 rest/1 figure/1 "
         + "forget/1 undo/0 ahead/3 today/2 first/1 hiding/2 order/2 mean/2 gone/1 hint/1 worth/1 wanders/1 shows/1 name/2 "
         + "ruled/1 ask/1 forged/0 seed/1 years/4 count/1 image/1 back/1";
-    private static final String[] FORBIDDEN = {"throw", "throws", "try", "catch", "finally", "synchronized", "assert", "import",
-        "package", "protected", "native", "Exception", "Error", "Object", "Random", "Thread", "Runtime", "Class", "hashCode",
-        "toString", "yield", "record", "var", "double", "float", "extends"};
+    private static final String[] FORBIDDEN = {"throw", "throws", "try", "catch", "finally", "synchronized", "assert",
+        "package", "protected", "native", "volatile", "Exception", "Error", "Object", "System\\.(?!arraycopy)\\w+", "Random", "Thread",
+        "Runtime", "Class", "hashCode"};
+    private static final String IMPORTS = "import java\\.util\\.(ArrayList|Arrays|Iterator|List);";
 
     private LanguageTest() {
     }
@@ -103,7 +104,10 @@ public final class LanguageTest {
             }
             boolean endless = line.contains("while (true") || line.contains("for (;;") || line.matches(".*for \\(.*; *;.*");
             Check.is("line " + (i + 1) + " is a loop without an end", endless ? 1 : 0, 0);
-            boolean lambda = line.contains("->") || line.contains("::");
+            boolean imports = line.startsWith("import") && !line.matches(IMPORTS);
+            Check.is("line " + (i + 1) + " imports what is not listed", imports ? 1 : 0, 0);
+            boolean arrow = line.contains("->") && !line.matches(" *(case .*|default) -> .*");
+            boolean lambda = arrow || line.contains("::");
             Check.is("line " + (i + 1) + " has a lambda", lambda ? 1 : 0, 0);
             Check.is("line " + (i + 1) + " has an Exact", line.contains("Exact") ? 1 : 0, 0);
             Check.is("line " + (i + 1) + " joins texts by +", line.contains("\" +") || line.contains("+ \"") ? 1 : 0, 0);

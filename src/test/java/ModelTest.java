@@ -1,7 +1,8 @@
 /** Runs of drawn calls: TinWall answers as the Model does. The draws are always the same. */
 public final class ModelTest {
     private static final int RUNS = 400;
-    private static final int CALLS = 512;
+    /** A text that is told makes up to 22 calls, and an object has but 512. */
+    private static final int CALLS = 480;
     private static final String[] WORDS = {"seeker", "stone", "feet", "hard", "odds", "wear", "figure", "off", "minutes",
         "skill", "vain", "tried", "found", "day"};
 
