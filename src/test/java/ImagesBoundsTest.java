@@ -192,7 +192,7 @@ public final class ImagesBoundsTest {
     }
 
     private static void goneThenBack() {
-        TinWall wall = Check.told(HILL.replace("hill 50 9", "hill 50 1").replace("walker 1", "walker 0").replace("3 1;", "3 0;").replace("5 1;", "5 0;"));
+        TinWall wall = Check.told("hill 50 1 20;stone 50 4 1;stone 60 4 2;tin 0;thing 9;seeker 0 4 3 0;seeker 0 4 5 0;walker 0");
         wall.image(0);
         Map<String, Integer> begin = Seen.all(wall);
         wall.day();

@@ -108,11 +108,11 @@ public final class NamesBoundsTest {
         ruled(last, "on two DAYS", 0, -2);
     }
 
-    /** Each RULE goes by another of the things that change; SEEKER 0 FINDS it by them on the DAYS beneath. */
+    /** Each RULE goes by another of the things that change; SEEKER 0 FINDS it by them on the DAYS beneath (-1: not). */
     private static final String[] CHANGING = {"look 1 if stone=1 and vain>=2", "look 1-tried if stone<3;look 0-1 if stone=3",
         "look 1 if stone=2;look 1 if stone=1 and wear=0 and day>=5", "look 0-off", "look 1 if stone=1 and found=0 and day>=7",
         "look 1 if stone=1 and minutes=8 and day>=8"};
-    private static final int[] WRITTEN = {2, 1, 5, 9, 7, 8};
+    private static final int[] WRITTEN = {2, 1, 5, -1, 7, 8};
 
     /** Not by what is now: VAIN, TRIED, WEAR, FIGURE, who has FOUND it, the DAY, where it is, which RULE is IN FORCE. */
     private static void ruledFromTheBegin() {
@@ -121,14 +121,14 @@ public final class NamesBoundsTest {
             TinWall fresh = Check.told(hill, CHANGING);
             TinWall used = Check.told(hill, CHANGING);
             fresh.force(rule);
-            Check.is("who FINDS it by RULE " + rule, fresh.ahead(0, 61, 2), rule == 3 ? -1 : WRITTEN[rule]);
+            Check.is("who FINDS it by RULE " + rule, fresh.ahead(0, 61, 2), WRITTEN[rule]);
             used.force(2);
             Check.days(used, 12);
             Check.is("found", used.count(10), 1);
             used.figure(50);
             used.hide(0);
             used.force(rule);
-            if (rule != 3) {
+            if (WRITTEN[rule] >= 0) {
                 fresh.name(WRITTEN[rule], 0);
                 used.name(WRITTEN[rule], 0);
                 ruled(fresh, "by RULE " + rule, 1, rule);
